@@ -38,18 +38,14 @@ public final class StreetTube {
     private static final int NOT_SO = 5;
     private static final int NOTHING = 6;
 
-    private final byte[] tape = new byte[TAPE_ROOM];
-    private int taped = 0;
     private Told told = new Told();
     /** A text is read into this one, so that a FAULT leaves the TUBE as it was. */
     private Told spare = new Told();
-    private final Reader reader = new Reader(tape);
+    private final Reader reader = new Reader();
     private final Street street = new Street();
     private final Reach turnReach = new Reach();
     private final Reach mirrorReach = new Reach();
     private final Shaker shaker = new Shaker();
-    private int latestFault = 0;
-    private int faultPlace = 0;
     private int latestTrouble = 0;
 
     public StreetTube() {
@@ -58,26 +54,22 @@ public final class StreetTube {
     // ---- the tube
 
     public int feed(int a, int b, int c, int d, int e) {
-        if (taped + 20 > TAPE_ROOM) {
+        if (reader.taped + 20 > TAPE_ROOM) {
             return NONE;
         }
-        putBytes(a);
-        putBytes(b);
-        putBytes(c);
-        putBytes(d);
-        putBytes(e);
-        return taped;
+        reader.put(a);
+        reader.put(b);
+        reader.put(c);
+        reader.put(d);
+        reader.put(e);
+        return reader.taped;
     }
 
     public int tube(int n) {
-        if (n < 0 || n > taped) {
+        if (n < 0 || n > reader.taped) {
             return refused(NUMBER);
         }
-        taped = 0;
-        boolean clean = reader.read(n, spare);
-        latestFault = reader.fault;
-        faultPlace = reader.place;
-        if (!clean) {
+        if (!reader.read(n, spare)) {
             return refused(FAULTY);
         }
         Told old = told;
@@ -90,11 +82,11 @@ public final class StreetTube {
     }
 
     public int fault() {
-        return latestFault;
+        return reader.fault;
     }
 
     public int where() {
-        return latestTrouble == FAULTY ? faultPlace : NONE;
+        return latestTrouble == FAULTY ? reader.place : NONE;
     }
 
     // ---- now
@@ -654,7 +646,7 @@ public final class StreetTube {
             case 10:
                 return street.images;
             case 11:
-                return taped;
+                return reader.taped;
             default:
                 return NONE;
         }
@@ -679,15 +671,6 @@ public final class StreetTube {
     private long fineLong(long answer) {
         latestTrouble = 0;
         return answer;
-    }
-
-    private void putBytes(int number) {
-        for (int shift = 24; shift >= 0; shift -= 8) {
-            if (taped < TAPE_ROOM) {
-                tape[taped] = (byte) (number >> shift);
-                taped++;
-            }
-        }
     }
 
     private boolean isTube() {
@@ -1143,7 +1126,7 @@ public final class StreetTube {
         }
     }
 
-    /** Reads a text from the left and stops at its first FAULT. */
+    /** Has THE TAPE; reads a text from its left and stops at the first FAULT. */
     private static final class Reader {
         private static final int FORM = 1;
         private static final int NOT_TOLD = 2;
@@ -1174,7 +1157,8 @@ public final class StreetTube {
             coded("tube"), coded("person"), coded("turn"), coded("quarrel"),
             coded("wants"), coded("shuns"), coded("unsure"), coded("seen")
         };
-        private final byte[] text;
+        private final byte[] text = new byte[TAPE_ROOM];
+        private int taped = 0;
         private int end = 0;
         private int at = 0;
         private int kind = END;
@@ -1189,12 +1173,17 @@ public final class StreetTube {
         private int fault = 0;
         private int place = 0;
 
-        Reader(byte[] tape) {
-            text = tape;
+        /** Four bytes come behind THE TAPE, the highest first. */
+        void put(int number) {
+            for (int shift = 24; shift >= 0 && taped < TAPE_ROOM; shift -= 8) {
+                text[taped] = (byte) (number >> shift);
+                taped++;
+            }
         }
 
         boolean read(int n, Told into) {
-            end = Math.min(n, text.length);
+            end = Math.min(n, taped);
+            taped = 0;
             at = 0;
             nameCount = 0;
             fault = 0;

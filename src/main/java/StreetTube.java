@@ -304,7 +304,7 @@ public final class StreetTube {
         }
         Reach all = reached();
         int least = quarrelsBy(street.stand);
-        for (int i = 0; i < all.count; i++) {
+        for (int i = 0; i < all.count && least > 0; i++) {
             least = Math.min(least, quarrelsBy(all.standBehind(i, street.stand, told.people)));
         }
         return fine(least);

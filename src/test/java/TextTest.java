@@ -159,6 +159,7 @@ public final class TextTest {
         check.faultAtMark(FULL + ";turn |t 0 1 2", 3);
         check.faultAtMark(FULL + ";turn |b 0 1 2", 3);
         check.faultAtMark(FULL + ";person c red at |1", 3);
+        check.faultAtMark(FULL + ";person c red at |0", 3);
         check.faultAtMark(HEAD + ";turn t 0 1 |1", 3);
         check.faultAtMark(FULL + ";quarrel b |b", 3);
         check.faultAtMark(FULL + ";quarrel a b;quarrel a |b", 3);

@@ -1489,10 +1489,6 @@ public final class StreetTube {
             return taken;
         }
 
-        private boolean isName() {
-            return kind == WORD && lineSort() == NONE;
-        }
-
         private int nameHere() {
             for (int i = 0; i < nameCount; i++) {
                 if (names[i] == value) {
@@ -1503,7 +1499,7 @@ public final class StreetTube {
         }
 
         private boolean takeNewName(int person) {
-            if (!isName()) {
+            if (kind != WORD || lineSort() != NONE) {
                 return failHere(FORM);
             }
             if (nameHere() != NONE) {
@@ -1519,7 +1515,7 @@ public final class StreetTube {
         }
 
         private int personHere() {
-            if (!isName()) {
+            if (kind != WORD || lineSort() != NONE) {
                 failHere(FORM);
                 return NONE;
             }

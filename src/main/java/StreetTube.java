@@ -41,7 +41,7 @@ public final class StreetTube {
     private Told told = new Told();
     /** A text is read into this one, so that a FAULT leaves the TUBE as it was. */
     private Told spare = new Told();
-    private final Reader reader = new Reader();
+    private final Reader reader = new Reader(spare);
     private final Street street = new Street();
     private final Reach turnReach = new Reach();
     private final Reach mirrorReach = new Reach();
@@ -1029,6 +1029,29 @@ public final class StreetTube {
             seen.count = 0;
         }
 
+        void addPerson(int hisColour, int k) {
+            if (people < MOST_PEOPLE) {
+                colour[people] = hisColour;
+                home[people] = k;
+                people++;
+            }
+        }
+
+        void addTurn(int change) {
+            if (turns < MOST_TURNS) {
+                turn[turns] = change;
+                turns++;
+            }
+        }
+
+        void addUnsure(int p, int k) {
+            if (unsure < MOST_UNSURE) {
+                unsureWho[unsure] = p;
+                unsureSlot[unsure] = k;
+                unsure++;
+            }
+        }
+
         boolean isHome(int k) {
             for (int p = 0; p < people; p++) {
                 if (home[p] == k) {
@@ -1169,9 +1192,13 @@ public final class StreetTube {
         /** The person of a name; NONE if it is a turn's. */
         private final int[] named = new int[MOST_NAMES];
         private int nameCount = 0;
-        private Told told = null;
+        private Told told;
         private int fault = 0;
         private int place = 0;
+
+        Reader(Told first) {
+            told = first;
+        }
 
         /** Four bytes come behind THE TAPE, the highest first. */
         void put(int number) {
@@ -1371,9 +1398,7 @@ public final class StreetTube {
             if (told.isHome((int) value)) {
                 return failHere(AGAIN);
             }
-            told.colour[told.people] = colour;
-            told.home[told.people] = (int) value;
-            told.people++;
+            told.addPerson(colour, (int) value);
             step();
             return true;
         }
@@ -1396,8 +1421,7 @@ public final class StreetTube {
                 change = Six.with(change, k, into);
                 step();
             }
-            told.turn[told.turns] = change;
-            told.turns++;
+            told.addTurn(change);
             return true;
         }
 
@@ -1441,9 +1465,7 @@ public final class StreetTube {
             if (k == NONE) {
                 return false;
             }
-            told.unsureWho[told.unsure] = p;
-            told.unsureSlot[told.unsure] = k;
-            told.unsure++;
+            told.addUnsure(p, k);
             return true;
         }
 
@@ -1638,7 +1660,7 @@ public final class StreetTube {
 
         private void find(int found, int source, int turn) {
             int rank = Six.rank(found, slots);
-            if (indexOfRank[rank] != NONE || count >= MOST) {
+            if (rank < 0 || rank >= MOST || indexOfRank[rank] != NONE || count >= MOST) {
                 return;
             }
             indexOfRank[rank] = count;
@@ -1651,7 +1673,8 @@ public final class StreetTube {
         }
 
         int depthOf(int looked) {
-            int index = indexOfRank[Six.rank(looked, slots)];
+            int rank = Six.rank(looked, slots);
+            int index = rank < 0 || rank >= MOST ? NONE : indexOfRank[rank];
             return index == NONE ? NONE : depth[index];
         }
 

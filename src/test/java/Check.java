@@ -53,7 +53,11 @@ final class Check {
 
     /** A FAULT that begins at the mark |, which isn't part of the text. */
     void faultAtMark(String marked, int number) {
-        int mark = marked.indexOf('|');
+        faultAtMark(marked, number, '|');
+    }
+
+    void faultAtMark(String marked, int number, char sign) {
+        int mark = marked.indexOf(sign);
         fault(marked.substring(0, mark) + marked.substring(mark + 1), number, mark);
     }
 

@@ -3,6 +3,7 @@ import java.lang.reflect.Field;
 import java.lang.reflect.Method;
 import java.lang.reflect.Modifier;
 import java.util.Arrays;
+import java.util.List;
 import java.util.Set;
 import java.util.TreeSet;
 
@@ -58,15 +59,32 @@ public final class FaceTest {
         check.due("constructors", made.length, 1);
         check.due("its parameters", made[0].getParameterCount(), 0);
         check.due("it is public", made[0].getModifiers(), Modifier.PUBLIC);
+        fieldsOf(check, StreetTube.class);
         Class<?>[] inside = StreetTube.class.getDeclaredClasses();
         check.due("at most twelve classes", inside.length < 12, true);
         for (Class<?> c : inside) {
             check.due(c.getName() + " is static", Modifier.isStatic(c.getModifiers()), true);
+            fieldsOf(check, c);
             for (Method m : c.getDeclaredMethods()) {
                 check.due(m + " bears a public name", names.contains(m.getName()), false);
                 check.due(m + " has few parameters", m.getParameterCount() <= 7, true);
             }
         }
+    }
+
+    /** Static fields are constants, and a class has some twenty others at most. */
+    private static void fieldsOf(Check check, Class<?> c) {
+        List<Class<?>> constants = List.of(int.class, long.class, boolean.class, char.class, String.class);
+        int others = 0;
+        for (Field f : c.getDeclaredFields()) {
+            if (Modifier.isStatic(f.getModifiers())) {
+                check.due(f + " is final", Modifier.isFinal(f.getModifiers()), true);
+                check.due(f + " is a constant", constants.contains(f.getType()), true);
+            } else {
+                others++;
+            }
+        }
+        check.due(c.getName() + " has few fields", others <= 20, true);
     }
 
     private static String described(Method m) {

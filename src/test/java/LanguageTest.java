@@ -25,6 +25,11 @@ public final class LanguageTest {
         check.due("static fields are final", count(text, "static (?!final)[\\w\\[\\]]+ \\w+ ?[=;]"), 0);
         // rows are made with their objects, not by calls
         check.due("rows made inside methods", count(text, "(?m)^ {8,}(?!private|this).*= new (?!Told|int\\[most|boolean\\[most)"), 0);
+        check.due("texts joined by +", count(text, "\"\\s*\\+|\\+\\s*\""), 0);
+        check.due("calls of a library that is left out",
+                count(text, "\\b[A-Z]\\w*(?<!Six|Reach|Beads|Duel|Blink|Shaker|Reader)\\.(?!class)\\w+\\("),
+                count(text, "\\b(Math\\.(min|max|abs)|Integer\\.bitCount|System\\.arraycopy)\\("));
+        check.due("length and charAt alone of texts", count(text, "\\bword\\.(?!length\\(|charAt\\()"), 0);
         methodsAreShort(check, lines);
         check.end();
     }

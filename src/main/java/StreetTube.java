@@ -39,9 +39,7 @@ public final class StreetTube {
     private static final int NOTHING = 6;
 
     private Told told = new Told();
-    /** A text is read into this one, so that a FAULT leaves the TUBE as it was. */
-    private Told spare = new Told();
-    private final Reader reader = new Reader(spare);
+    private final Reader reader = new Reader();
     private final Street street = new Street();
     private final Reach turnReach = new Reach();
     private final Reach mirrorReach = new Reach();
@@ -69,12 +67,10 @@ public final class StreetTube {
         if (n < 0 || n > reader.taped) {
             return refused(NUMBER);
         }
-        if (!reader.read(n, spare)) {
+        if (!reader.read(n)) {
             return refused(FAULTY);
         }
-        Told old = told;
-        told = spare;
-        spare = old;
+        told = reader.changeFor(told);
         turnReach.known = false;
         mirrorReach.known = false;
         street.begin(told.homeStand());
@@ -1192,13 +1188,10 @@ public final class StreetTube {
         /** The person of a name; NONE if it is a turn's. */
         private final int[] named = new int[MOST_NAMES];
         private int nameCount = 0;
-        private Told told;
+        /** A text is read into this one, so that a FAULT leaves the TUBE as it was. */
+        private Told told = new Told();
         private int fault = 0;
         private int place = 0;
-
-        Reader(Told first) {
-            told = first;
-        }
 
         /** Four bytes come behind THE TAPE, the highest first. */
         void put(int number) {
@@ -1208,14 +1201,13 @@ public final class StreetTube {
             }
         }
 
-        boolean read(int n, Told into) {
+        boolean read(int n) {
             end = Math.min(n, taped);
             taped = 0;
             at = 0;
             nameCount = 0;
             fault = 0;
             place = 0;
-            told = into;
             told.clear();
             step();
             boolean more = true;
@@ -1224,6 +1216,13 @@ public final class StreetTube {
                 more = takeLine() && goesOn();
             }
             return fault == 0;
+        }
+
+        /** What was read, for what is no longer needed: the next text is read into that one. */
+        Told changeFor(Told old) {
+            Told read = told;
+            told = old;
+            return read;
         }
 
         private boolean failHere(int number) {

@@ -12,6 +12,7 @@ public final class ChanceEdgesTest {
         noFits();
         oneFitWithNobodyUnsure();
         eightFits();
+        nobodyCould();
         allSurely();
         askTheFirstOfTheBest();
         fitsAreOfAtFirst();
@@ -74,6 +75,21 @@ public final class ChanceEdgesTest {
         check.fine("surely()", x, x.surely(), 0);
         check.fine("ask() the first", x, x.ask(), 0);
         check.fine("askLeaves()", x, x.askLeaves(), 4);
+    }
+
+    /** Only the set of nobody fits: their other slots are other people's, who stay. */
+    private static void nobodyCould() {
+        String[] unsure = {";unsure a 1", ";unsure a 1;unsure c 1", ";unsure a 3;unsure b 3;unsure c 0;seen b c far;seen a c far;seen a b beside"};
+        for (int i = 0; i < unsure.length; i++) {
+            StreetTube x = check.told(FIVE + unsure[i], 3);
+            check.fine("fits() of " + unsure[i], x, x.fits(), 1);
+            check.fine("fitAt(0) of " + unsure[i], x, x.fitAt(0), 0);
+            check.refused("fitAt(1) of " + unsure[i], x, x.fitAt(1), 1);
+            check.fine("could() of " + unsure[i], x, x.could(), 0);
+            check.fine("surely() of " + unsure[i], x, x.surely(), 0);
+            check.fine("ask() of " + unsure[i], x, x.ask(), 0);
+            check.fine("askLeaves() of " + unsure[i], x, x.askLeaves(), 1);
+        }
     }
 
     private static void allSurely() {

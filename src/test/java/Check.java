@@ -42,8 +42,17 @@ final class Check {
         }
     }
 
-    /** A text that has a FAULT, at a place. */
+    /** A text that has a FAULT, at a place; other faults behind it are of no account. */
     void fault(String text, int number, int place) {
+        oneFault(text, number, place);
+        for (String more : new String[] {" ;#", " tube", " 999;quarrel zz zz"}) {
+            if (place < text.length() && text.length() + more.length() <= 700) {
+                oneFault(text + more, number, place);
+            }
+        }
+    }
+
+    private void oneFault(String text, int number, int place) {
         StreetTube x = new StreetTube();
         due("tube of <" + text + ">", tell(x, text), -1);
         due("trouble() of <" + text + ">", x.trouble(), 4);

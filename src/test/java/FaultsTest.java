@@ -14,6 +14,7 @@ public final class FaultsTest {
         otherBytesBeginNoToken();
         blanksPartTokensAndMeanNothingElse();
         semicolonsAreSingle();
+        namesMayNotBeLeftOut();
         namesAreNoLineWords();
         namesAreToldOnce();
         namesAreToldAheadOfTheirUse();
@@ -108,6 +109,23 @@ public final class FaultsTest {
         check.faultAtMark(FULL + ";|;", 1);
         check.faultAtMark(FULL + " ;   |", 1);
         check.faultAtMark("tube|;", 1);
+    }
+
+    private static void namesMayNotBeLeftOut() {
+        check.faultAtMark(HEAD + ";person a red at 0;turn |1 2 0", 1);
+        check.faultAtMark(HEAD + ";turn |;person a red at 0", 1);
+        check.faultAtMark(HEAD + ";person red |at 0", 1);
+        check.faultAtMark(HEAD + ";person |;turn t 0 1 2", 1);
+        check.faultAtMark(HEAD + ";person |0", 1);
+        for (String line : new String[] {"quarrel", "wants", "shuns", "seen", "unsure"}) {
+            check.faultAtMark(FULL + ";" + line + "|", 1);
+            check.faultAtMark(FULL + ";" + line + " |;", 1);
+            check.faultAtMark(FULL + ";" + line + " a|", 1);
+            check.faultAtMark(FULL + ";" + line + " a |;", 1);
+            check.faultAtMark(FULL + ";" + line + " |0 a", 1);
+        }
+        check.faultAtMark(FULL + ";seen a |far", 2);
+        check.faultAtMark(FULL + ";seen a b|", 1);
     }
 
     private static void namesAreNoLineWords() {

@@ -22,6 +22,7 @@ public final class StreetEdgesTest {
         tubeReadsTheFirstBytesAlone();
         tubeOfATextAsLongAsTheTape();
         aGoodTubeForgetsActsAndImages();
+        nothingOfAnEarlierTubeIsLeft();
         aFaultyTubeStays();
         faultIsOfTheLatestTube();
         whereIsOfTheLatestCall();
@@ -163,6 +164,23 @@ public final class StreetEdgesTest {
         StreetTube most = check.told(MOST, 6);
         check.due("all is of the third tube", Whole.asked(x).equals(Whole.asked(most)), true);
         check.due("and can be used up so", Whole.usedUp(x).equals(Whole.usedUp(most)), true);
+    }
+
+    /** Texts one behind the other, in each order: all answers are those of the latest alone. */
+    private static void nothingOfAnEarlierTubeIsLeft() {
+        String[] texts = {LEAST, FOUR, MOST, MOST.replace(";turn s 1 0 2 3 4 5;turn n 0 1 2 3 4 5", "")};
+        for (String first : texts) {
+            for (String second : texts) {
+                StreetTube x = check.told(first, new NaiveText(first).people);
+                Whole.asked(x);
+                check.due("the second text", Check.tell(x, second), new NaiveText(second).people);
+                StreetTube fresh = check.told(second, new NaiveText(second).people);
+                check.due("all is of the second text", Whole.asked(x).equals(Whole.asked(fresh)), true);
+                check.due("the third text", Check.tell(x, first), new NaiveText(first).people);
+                StreetTube again = check.told(first, new NaiveText(first).people);
+                check.due("all is of the third text", Whole.asked(x).equals(Whole.asked(again)), true);
+            }
+        }
     }
 
     private static void aFaultyTubeStays() {

@@ -25,8 +25,10 @@ final class Whole {
             }
         }
         text.append(" counts ").append(x.quarrels()).append(' ').append(x.met()).append(' ').append(x.reach());
-        text.append(' ').append(x.errand()).append(' ').append(x.peace()).append(' ').append(x.colourings(2));
-        text.append(' ').append(x.mirrored(2)).append(' ').append(x.fits()).append(' ').append(x.judge());
+        text.append(' ').append(x.deepest()).append(' ').append(x.evens()).append(' ').append(x.pairs());
+        text.append(' ').append(x.centre()).append(' ').append(x.errand()).append(' ').append(x.peace());
+        text.append(' ').append(x.colourings(9)).append(' ').append(x.mirrored(9)).append(' ').append(x.fits());
+        text.append(' ').append(x.could()).append(' ').append(x.judge()).append(' ').append(x.mean(1, false));
         return text.toString();
     }
 
